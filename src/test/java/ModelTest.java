@@ -95,7 +95,7 @@ public final class ModelTest {
         } else if (choice == 2) {
             CHECK.due(where + "depth(" + engine + ")", x.depth(engine), model.depth(engine));
         } else {
-            int k = mostlyBelow(4);
+            int k = mostlyBelow(below(2) == 0 ? 3 : 17);
             CHECK.due(where + "input(" + k + ")", x.input(k), model.input(k));
         }
     }
