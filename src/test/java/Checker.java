@@ -1,18 +1,48 @@
-/** Counts and prints the answers that are not the ones that are due. */
+import java.util.function.IntPredicate;
+import java.util.function.IntUnaryOperator;
+
+/** Runs tests by name, and counts and prints the answers that are not the ones that are due. */
 final class Checker {
+    private String test = "";
     private int checked = 0;
     private int wrong = 0;
+
+    /** A test that throws fails alone, so that the others still tell what they find. */
+    void run(String name, Runnable body) {
+        int before = checked;
+        test = name + ": ";
+        try {
+            body.run();
+        } catch (RuntimeException thrown) {
+            report("threw " + thrown);
+        }
+        if (checked == before) {
+            report("checked nothing");
+        }
+        test = "";
+    }
 
     void due(String what, int got, int want) {
         checked++;
         if (got != want) {
-            wrong++;
-            System.out.println(what + " answered " + got + ", due is " + want);
+            report(what + " answered " + got + ", due is " + want);
         }
     }
 
     void due(String what, boolean got, boolean want) {
         due(what, got ? 1 : 0, want ? 1 : 0);
+    }
+
+    void each(String what, int[] arguments, IntUnaryOperator call, int want) {
+        for (int argument : arguments) {
+            due(what + " with " + argument, call.applyAsInt(argument), want);
+        }
+    }
+
+    void each(String what, int[] arguments, IntPredicate call, boolean want) {
+        for (int argument : arguments) {
+            due(what + " with " + argument, call.test(argument), want);
+        }
     }
 
     boolean anyWrong() {
@@ -24,5 +54,10 @@ final class Checker {
         if (wrong != 0 || checked == 0) {
             System.exit(1);
         }
+    }
+
+    private void report(String text) {
+        wrong++;
+        System.out.println(test + text);
     }
 }
