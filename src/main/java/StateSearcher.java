@@ -364,7 +364,8 @@ public final class StateSearcher {
         }
         // A round without a new state is the last one that matters, and only 15 can be new.
         for (int round = 0; round < STATES; round++) {
-            strikeOut(allowed | allFollowers(allowed));
+            int withFollowers = allowed | allFollowers(allowed);
+            strikeOut(withFollowers);
             allowed = allowedByClauses();
         }
         return (allowed & badStates) != 0;
