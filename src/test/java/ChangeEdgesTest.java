@@ -142,7 +142,7 @@ public final class ChangeEdgesTest {
     private static void newIsApart() {
         StateSearcher changed = Circuits.withGates(3);
         StateSearcher other = new StateSearcher();
-        changed.next(0, 9);
+        changed.next(0, 0);
         changed.begin(1, 1);
         changed.watch(2);
         CHECK.due("signals()", other.signals(), 7);

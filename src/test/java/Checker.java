@@ -3,23 +3,42 @@ import java.util.function.IntUnaryOperator;
 
 /** Runs tests by name, and counts and prints the answers that are not the ones that are due. */
 final class Checker {
+    // All tests together take a few seconds; a test that is not done by then will never be.
+    private static final long MOST_MILLISECONDS = 60_000;
+
     private String test = "";
     private int checked = 0;
     private int wrong = 0;
 
-    /** A test that throws fails alone, so that the others still tell what they find. */
+    /** A test that throws fails alone; one that does not end fails too, and is the last one. */
     void run(String name, Runnable body) {
         int before = checked;
         test = name + ": ";
-        try {
-            body.run();
-        } catch (RuntimeException thrown) {
-            report("threw " + thrown);
+        if (!ends(body)) {
+            report("did not end");
+            System.exit(1);
         }
         if (checked == before) {
             report("checked nothing");
         }
         test = "";
+    }
+
+    private boolean ends(Runnable body) {
+        Thread thread = new Thread(() -> {
+            try {
+                body.run();
+            } catch (RuntimeException thrown) {
+                report("threw " + thrown);
+            }
+        });
+        thread.start();
+        try {
+            thread.join(MOST_MILLISECONDS);
+        } catch (InterruptedException stopped) {
+            return false;
+        }
+        return !thread.isAlive();
     }
 
     void due(String what, int got, int want) {

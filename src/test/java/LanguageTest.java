@@ -51,6 +51,9 @@ public final class LanguageTest {
         rules.look();
         CHECK.due("rule 10: methods that were looked at", rules.calls.size() > 16, true);
         for (String method : rules.calls.keySet()) {
+            Set<String> foreign = new TreeSet<>(rules.calls.get(method));
+            foreign.removeAll(rules.declared);
+            CHECK.due("rule 3: " + method + " calls what is not the class's own " + foreign, foreign.isEmpty(), true);
             int deep = deepest(method, rules.calls, new HashSet<>());
             CHECK.due("rules 8 and 10: " + method + " calls " + deep + " deep", deep <= MOST_CALLS_DEEP, true);
         }
@@ -81,6 +84,7 @@ public final class LanguageTest {
     private static final class Rules extends TreeScanner<Void, Void> {
         private final CompilationUnitTree unit;
         private final Map<String, Set<String>> calls = new TreeMap<>();
+        private final Set<String> declared = new TreeSet<>();
         private final Set<String> arrayFields = new TreeSet<>();
         private String method = "";
         private int argumentsAround = 0;
@@ -137,6 +141,7 @@ public final class LanguageTest {
         @Override
         public Void visitMethod(MethodTree tree, Void none) {
             method = tree.getName().toString();
+            declared.add(method);
             calls.putIfAbsent(method, new TreeSet<>());
             keeps("rule 10: parameters", tree, tree.getParameters().size() <= MOST_PARAMETERS);
             keeps("rule 10: lines", tree, tree.toString().split("\n").length <= MOST_LINES);
@@ -157,7 +162,6 @@ public final class LanguageTest {
         @Override
         public Void visitMethodInvocation(MethodInvocationTree tree, Void none) {
             keeps("rule 10: no call inside the arguments of another", tree, argumentsAround == 0);
-            keeps("rule 3: only the class's own methods are called", tree, tree.getMethodSelect() instanceof IdentifierTree);
             calls.computeIfAbsent(method, name -> new TreeSet<>()).add(tree.getMethodSelect().toString());
             argumentsAround++;
             scan(tree.getArguments(), none);

@@ -229,7 +229,10 @@ public final class NothingChangedTest {
                 refusedByAll("far(" + state + ")", x -> x.far(state), BAD);
             }
         });
-        CHECK.run("15: far, NONE", () -> refused("far(0)", x -> x.far(0), NONE, bare()));
+        CHECK.run("15: far, NONE", () -> {
+            refused("far(0)", x -> x.far(0), NONE, bare());
+            refused("far(4)", x -> x.far(4), NONE, withFiveGates());
+        });
         CHECK.run("16: step, BAD", () -> {
             for (int number : Circuits.outside(0, 15)) {
                 refusedByAll("step(" + number + ", 3)", x -> x.step(number, 3), BAD);
