@@ -48,6 +48,13 @@ final class Checker {
         }
     }
 
+    void due(String what, String got, String want) {
+        checked++;
+        if (!got.equals(want)) {
+            report(what + " answered " + got + ", due is " + want);
+        }
+    }
+
     void due(String what, boolean got, boolean want) {
         due(what, got ? 1 : 0, want ? 1 : 0);
     }

@@ -25,7 +25,7 @@ import javax.tools.StandardJavaFileManager;
 import javax.tools.ToolProvider;
 
 /**
- * Rules 2 to 8 and 10 of LANGUAGE.md as far as the program's text shows them, looked for in the tree
+ * Rules 1 to 6, 8 and 10 of LANGUAGE.md as far as the program's text shows them, looked for in the tree
  * that javac makes of it. Where it is stricter than a rule (no member is selected, every loop is a for
  * with a counter) the program has no need for more.
  */
